@@ -23,14 +23,14 @@ public final class BoundaryTest {
     // ---- how a test is told and counted ----
 
     private static String sentence = "";
-    private static int sentences = 0;
+    private static int tests = 0;
     private static int wrong = 0;
     private static int wrongOfSentence = 0;
     private static String lastCall = "";
 
     private static void says(String quoted) {
         sentence = quoted;
-        sentences++;
+        tests++;
         wrongOfSentence = 0;
     }
 
@@ -429,16 +429,15 @@ public final class BoundaryTest {
         }
     }
 
-    private static void all512CallsOfOneKind() {
-        says("What it is: \"at most 512 calls\", all of one kind");
+    private static void nearly512CallsOfOneKind() {
+        says("What it is: \"at most 512 calls\", nearly all of one kind, most of them refused");
         Run creates = new Run();
-        Run musts = new Run();
+        Run musts = new Run().creates(1);
         Run words = new Run();
         Run removes = new Run();
         Run documents = new Run();
         Run reads = new Run();
-        musts.create(0);
-        for (int k = 1; k <= 511; k++) {
+        for (int k = 1; k <= 508; k++) {
             due(creates.create(0), k <= 12 ? k - 1 : FULL);
             due(musts.must(0, 0), k <= 6 ? k : FULL);
             due(words.word(k % 24), k <= 16 ? k : FULL);
@@ -446,10 +445,22 @@ public final class BoundaryTest {
             documents.document(k);
             due(reads.matches(), 0);
         }
+        // Each call that was refused so long is made once more where it is taken.
+        due(creates.remove(11), 11);
+        due(creates.create(0), 11);
         due(creates.matches(), 12);
-        due(words.matches(), 0);
+        due(musts.remove(0), 0);
+        due(musts.create(0), 0);
+        due(musts.must(0, 0), 1);
+        words.document(0);
+        due(words.word(23), 1);
         due(removes.create(0), 0);
-        due(documents.word(0), 1);
+        due(removes.remove(0), 0);
+        due(documents.create(0), 0);
+        due(documents.range(0, 508, 508), 1);
+        due(documents.matches(), 1);
+        due(reads.create(0), 0);
+        due(reads.matches(), 1);
     }
 
     private static void manyCallsThatAreTaken() {
@@ -1576,7 +1587,7 @@ public final class BoundaryTest {
 
     public static void main(String[] args) {
         lastOf512Calls();
-        all512CallsOfOneKind();
+        nearly512CallsOfOneKind();
         manyCallsThatAreTaken();
         termsAre0To23();
         atMost16Words();
@@ -1630,7 +1641,7 @@ public final class BoundaryTest {
         rangeRefusesInOrder();
         wordRefusesInOrder();
         System.out.println(wrong == 0
-            ? "all answers are as due, in " + sentences + " tests of sentences"
+            ? "all answers are as due, in " + tests + " tests"
             : wrong + " answers are not as due");
         if (wrong != 0) {
             System.exit(1);
